@@ -576,17 +576,19 @@ public final class KillingForms {
     }
 
     int number(int place) {
-      return isWithin(place, MOST_MONOMIALS) ? numbers[place] : 0;
+      return place >= 0 && place < MOST_MONOMIALS ? numbers[place] : 0;
     }
 
     void set(int place, int v) {
-      if (isWithin(place, MOST_MONOMIALS)) {
+      if (place >= 0 && place < MOST_MONOMIALS) {
         numbers[place] = v;
       }
     }
 
     void plus(int place, int v) {
-      set(place, (number(place) + v) % PRIME);
+      if (place >= 0 && place < MOST_MONOMIALS) {
+        numbers[place] = (numbers[place] + v) % PRIME;
+      }
     }
 
     void clear(int newDegree) {
@@ -649,20 +651,17 @@ public final class KillingForms {
       }
     }
 
-    int monomialOf(Form line, int place) {
-      return monomialAt(line, xPower(degree, place), Y_POWERS[place], Z_POWERS[place]);
-    }
-
     void addPower(Form line, int v) {
       for (int i = 0; i < size(); i++) {
-        plus(i, monomialOf(line, i) * v);
+        plus(i, monomialAt(line, xPower(degree, i), Y_POWERS[i], Z_POWERS[i]) * v);
       }
     }
 
     int valueAt(Form line) {
       int together = 0;
       for (int i = 0; i < size(); i++) {
-        together = (together + number(i) * monomialOf(line, i)) % PRIME;
+        int monomial = monomialAt(line, xPower(degree, i), Y_POWERS[i], Z_POWERS[i]);
+        together = (together + number(i) * monomial) % PRIME;
       }
       return together;
     }
@@ -1233,12 +1232,11 @@ public final class KillingForms {
     }
 
     private boolean isNext(int letter) {
-      return fault == NO_FAULT && tape.letterAt(at) == letter;
+      return fault == NO_FAULT && at < tape.length && tape.bytes[at] == letter;
     }
 
     private boolean isNextBetween(int least, int greatest) {
-      int letter = tape.letterAt(at);
-      return fault == NO_FAULT && letter >= least && letter <= greatest;
+      return fault == NO_FAULT && at < tape.length && tape.bytes[at] >= least && tape.bytes[at] <= greatest;
     }
 
     private void expect(int letter) {

@@ -259,6 +259,9 @@ public final class KillingFormsTest {
     dueText("register 1", written(x, 1), "0:3");
     due("contract(0, 2, 0)", x.contract(0, 2, 0), 4);
     dueText("register 0", written(x, 0), "10x3y:4");
+    x = with("form 0 = 7x4+2x3z+z4;form 1 = x3+3z3");
+    due("contract(2, 1, 0)", x.contract(2, 1, 0), 1);
+    dueText("register 2", written(x, 2), "7x+5z:1");
     due("contract(4, 0, 0)", x.contract(4, 0, 0), BAD);
     due("contract(0, 4, 0)", x.contract(0, 4, 0), BAD);
     due("contract(0, 0, 4)", x.contract(0, 0, 4), BAD);
@@ -540,6 +543,22 @@ public final class KillingFormsTest {
     due("weight 3", x.weight(0, 3), NOT);
     due("great", x.weight(0, GREATEST), NOT);
     due("below", x.weight(0, -1), BAD);
+    readText(x, "form 1 = 30x3+44y3");
+    due("two", x.root(1, -1), 2);
+    due("weight of (1, 0, 0)", x.weight(1, 0), 30);
+    due("weight of (0, 1, 0)", x.weight(1, 1), 44);
+    readText(x, "form 1 = 5x+10y;form 2 = x2+y2");
+    due("by degree 1", x.deep(1), 1);
+    due("root", x.root(1, 0), 2);
+    due("weight", x.weight(1, 0), 5);
+    due("no more", x.weight(1, 1), NOT);
+    due("by degree 2", x.deep(2), 2);
+    due("weight", x.weight(2, 1), 51);
+    // two operators of degree 3 kill it, and the first of them has too few roots
+    readText(x, "zero 1 4;add 1 1 7;add 1 2 100;add 1 3 50");
+    due("deep", x.deep(1), 3);
+    due("roots", x.root(1, -1), 1);
+    due("not parted", x.weight(1, 0), STATE);
     readText(x, "form 1 = x4y;form 2 = 7;form 3 = 2x3+4xy2");
     due("of x4y", x.weight(1, 0), STATE);
     due("of x4y", x.weight(1, 9), STATE);
@@ -594,6 +613,11 @@ public final class KillingFormsTest {
     due("lead(4, 0, 0)", x.lead(4, 0, 0), BAD);
     due("lead(-1, 0, 0)", x.lead(-1, 0, 0), BAD);
     due("lead of 0", x.lead(1, 0, 0), NOT);
+    readText(x, "form 1 = 9x2+9xy+8z2");
+    due("the first place", x.lead(1, 0, 0), 20);
+    due("the one behind it", x.lead(1, 1, 0), 11);
+    due("the last place", x.lead(1, 2, 0), 0);
+    due("no more", x.lead(1, 3, 0), NOT);
   }
 
   private static void tally() {
@@ -701,6 +725,9 @@ public final class KillingFormsTest {
     due("lay(2, 39, 5)", x.lay(2, 39, 5), 1);
     due("row(2, 40)", x.row(2, 40), 1);
     due("all 0", x.get(2, 39), 0);
+    x.lay(2, 0, 7);
+    x.row(2, 3);
+    due("all 0", x.get(2, 0), 0);
     due("row(2, 0)", x.row(2, 0), 1);
     due("get(2, 0)", x.get(2, 0), OUTSIDE);
     due("row(2, -1)", x.row(2, -1), 1);
@@ -808,6 +835,8 @@ public final class KillingFormsTest {
     dueText("1 of degree 0", written(x, 0), "1:0");
     x.put(0, 0, 0, 100);
     dueText("100", written(x, 0), "100:0");
+    readText(x, "form 0 = x+y+z");
+    dueText("short ones", written(x, 0), "x+y+z:1");
     x.zero(0, 4);
     dueText("0 of degree 4", written(x, 0), "0:4");
     readText(x, "form 0 = y5-x5+10x2y2z+yz4");
@@ -957,6 +986,9 @@ public final class KillingFormsTest {
     faultAt(" zero 0 1", 0);
     faultAt("Zero 0 1", 0);
     faultAt("zer", 0);
+    faultAt("lorm 0 = x", 0);
+    faultAt("fine 0 = 1 , 2 , 3", 0);
+    faultAt("addd 0 0 1", 0);
     faultAt("zer 0 1", 0);
     faultAt("zeros 0 1", 0);
     faultAt("zero", 4);
@@ -1028,6 +1060,9 @@ public final class KillingFormsTest {
     refusedBehind("form 0 = x+0", 0);
     refusedBehind("form 0 = x3y3+x", 0);
     KillingForms x = new KillingForms();
+    due("unlike", readText(x, "form 0 = x+y2"), -200);
+    due("well behind it", readText(x, "form 0 = x+y"), 1);
+    x = new KillingForms();
     due("two done", readText(x, "zero 1 3;form 2 = x;zero 1 6;form 2 = y"), -202);
     due("done ahead", x.told(1, 0), 3);
     dueText("not done behind", written(x, 2), "x:1");
