@@ -1,14 +1,5 @@
 /** For each promise of the document: ordinary calls, the edges that it names, and wrong calls. */
-public final class KillingFormsTest {
-  private static final int BAD = -1, NOT = -2, FULL = -3, STATE = -5, MISSING = -11, OUTSIDE = -13, SMALL = -14, NOT_TAKEN = -16;
-  private static final int LEAST = Integer.MIN_VALUE, GREATEST = Integer.MAX_VALUE;
-
-  private static int promise = 0;
-  private static int wrong = 0;
-  private static int wrongBefore = 0;
-  private static int passed = 0;
-  private static int failed = 0;
-
+public final class KillingFormsTest extends Check {
   public static void main(String[] args) {
     newObject();
     zero();
@@ -49,75 +40,11 @@ public final class KillingFormsTest {
     image();
     restore();
     count();
-    closePromise();
-    System.out.println("promises: " + passed + " passed, " + failed + " failed");
-    if (failed > 0) {
-      System.exit(1);
-    }
-  }
-
-  private static void begin(int number) {
-    closePromise();
-    promise = number;
-  }
-
-  private static void closePromise() {
-    if (promise > 0 && wrong == wrongBefore) {
-      passed++;
-    } else if (promise > 0) {
-      failed++;
-    }
-    wrongBefore = wrong;
-  }
-
-  private static void due(String call, int got, int want) {
-    if (got != want) {
-      wrong++;
-      System.out.println("promise " + promise + ": " + call + " answered " + got + ", due is " + want);
-    }
-  }
-
-  private static void dueText(String call, String got, String want) {
-    if (!got.equals(want)) {
-      wrong++;
-      System.out.println("promise " + promise + ": " + call + " answered " + got + ", due is " + want);
-    }
-  }
-
-  /** A register written, and its degree behind it: 0 of degree 2 is "0:2". */
-  private static String written(KillingForms x, int r) {
-    StringBuilder text = new StringBuilder();
-    for (int i = 0; i < x.say(r, -1); i++) {
-      text.append((char) x.say(r, i));
-    }
-    return text.append(':').append(x.told(r, 0)).toString();
-  }
-
-  private static String lineText(KillingForms x, int k) {
-    return x.lineOf(k, 0) + "," + x.lineOf(k, 1) + "," + x.lineOf(k, 2);
-  }
-
-  private static int readText(KillingForms x, String text) {
-    for (int i = 0; i < text.length(); i++) {
-      x.feed(text.charAt(i));
-    }
-    return x.read();
-  }
-
-  private static KillingForms with(String... texts) {
-    KillingForms x = new KillingForms();
-    for (String text : texts) {
-      int done = readText(x, text);
-      if (done < 1) {
-        wrong++;
-        System.out.println("promise " + promise + ": the text " + text + " answered " + done);
-      }
-    }
-    return x;
+    finish("promises");
   }
 
   private static void newObject() {
-    begin(1);
+    begin("promise 1");
     KillingForms x = new KillingForms();
     for (int r = 0; r < 4; r++) {
       dueText("register " + r, written(x, r), "0:0");
@@ -140,7 +67,7 @@ public final class KillingFormsTest {
   }
 
   private static void zero() {
-    begin(2);
+    begin("promise 2");
     KillingForms x = new KillingForms();
     due("zero(3, 5)", x.zero(3, 5), 0);
     due("zero(3, 2)", x.zero(3, 2), 5);
@@ -157,7 +84,7 @@ public final class KillingFormsTest {
   }
 
   private static void put() {
-    begin(3);
+    begin("promise 3");
     KillingForms x = new KillingForms();
     due("put degree 0", x.put(0, 0, 0, 100), 0);
     due("put again", x.put(0, 0, 0, 3), 100);
@@ -184,7 +111,7 @@ public final class KillingFormsTest {
   }
 
   private static void of() {
-    begin(4);
+    begin("promise 4");
     KillingForms x = with("form 1 = 5x2+6xy+7xz+8y2+9yz+10z2");
     due("of(1, 2, 0)", x.of(1, 2, 0), 5);
     due("of(1, 1, 1)", x.of(1, 1, 1), 6);
@@ -203,7 +130,7 @@ public final class KillingFormsTest {
   }
 
   private static void told() {
-    begin(5);
+    begin("promise 5");
     KillingForms x = with("form 0 = 5x2y+0xyz+7y3");
     int[] sizes = {1, 3, 6, 10, 15, 21};
     due("told(0, 0)", x.told(0, 0), 3);
@@ -227,7 +154,7 @@ public final class KillingFormsTest {
   }
 
   private static void sum() {
-    begin(6);
+    begin("promise 6");
     KillingForms x = with("form 0 = 3x2+100yz;form 1 = 50x2+2yz+z2;form 2 = x");
     due("sum(3, 0, 1, 2)", x.sum(3, 0, 1, 2), 2);
     dueText("register 3", written(x, 3), "2x2+3yz+2z2:2");
@@ -247,7 +174,7 @@ public final class KillingFormsTest {
   }
 
   private static void contract() {
-    begin(7);
+    begin("promise 7");
     KillingForms x = with("form 0 = 5x3y+7xy2z+2z4", "form 1 = xy+3z2");
     due("contract(2, 1, 0)", x.contract(2, 1, 0), 2);
     dueText("register 2", written(x, 2), "5x2+7yz+6z2:2");
@@ -271,7 +198,7 @@ public final class KillingFormsTest {
   }
 
   private static void multiply() {
-    begin(8);
+    begin("promise 8");
     KillingForms x = with("form 0 = x+2y+100z;form 1 = 3x2+50yz");
     due("multiply(2, 0, 1)", x.multiply(2, 0, 1), 3);
     dueText("register 2", written(x, 2), "3x3+6x2y+98x2z+50xyz+100y2z+51yz2:3");
@@ -291,7 +218,7 @@ public final class KillingFormsTest {
   }
 
   private static void line() {
-    begin(9);
+    begin("promise 9");
     KillingForms x = new KillingForms();
     due("line(0, 100, 0, 1)", x.line(0, 100, 0, 1), 1);
     due("line(5, 1, 2, 3)", x.line(5, 1, 2, 3), 1);
@@ -310,7 +237,7 @@ public final class KillingFormsTest {
   }
 
   private static void lineOf() {
-    begin(10);
+    begin("promise 10");
     KillingForms x = with("line 3 = 7 , 8 , 9");
     due("lineOf(3, 0)", x.lineOf(3, 0), 7);
     due("lineOf(3, 1)", x.lineOf(3, 1), 8);
@@ -323,7 +250,7 @@ public final class KillingFormsTest {
   }
 
   private static void power() {
-    begin(11);
+    begin("promise 11");
     KillingForms x = with("line 1 = 2 , 3 , 50;line 2 = 0 , 1 , 0");
     due("power(0, 1, 2)", x.power(0, 1, 2), 2);
     dueText("register 0", written(x, 0), "4x2+6xy+100xz+9y2+49yz+76z2:2");
@@ -342,7 +269,7 @@ public final class KillingFormsTest {
   }
 
   private static void adds() {
-    begin(12);
+    begin("promise 12");
     KillingForms x = with("line 1 = 1 , 2 , 0;form 0 = 3x2+z2");
     due("adds(0, 1, 50)", x.adds(0, 1, 50), 2);
     dueText("register 0", written(x, 0), "53x2+100xy+99y2+z2:2");
@@ -359,7 +286,7 @@ public final class KillingFormsTest {
   }
 
   private static void value() {
-    begin(13);
+    begin("promise 13");
     KillingForms x = with("form 0 = 3x2y+xz2-5z3;line 1 = 2 , 3 , 4;line 2 = 0 , 0 , 1;form 1 = 17");
     due("value(0, 1)", x.value(0, 1), (36 + 32 - 320 + 303) % 101);
     due("value(0, 2)", x.value(0, 2), 96);
@@ -373,7 +300,7 @@ public final class KillingFormsTest {
   }
 
   private static void kills() {
-    begin(14);
+    begin("promise 14");
     KillingForms x = with("form 0 = 5x3y+z4;form 1 = y2;form 2 = z");
     due("kills(1, 0)", x.kills(1, 0), 1);
     due("kills(2, 0)", x.kills(2, 0), 0);
@@ -391,7 +318,7 @@ public final class KillingFormsTest {
   }
 
   private static void rank() {
-    begin(15);
+    begin("promise 15");
     KillingForms x = with("form 0 = x2+y2+z2;form 1 = xyz;form 2 = x4y+x4z");
     int[] square = {1, 3, 1};
     int[] product = {1, 3, 3, 1};
@@ -414,16 +341,8 @@ public final class KillingFormsTest {
     due("rank(-1, 0)", x.rank(-1, 0), BAD);
   }
 
-  private static String killerText(KillingForms x, int r, int e, int k) {
-    StringBuilder text = new StringBuilder();
-    for (int i = 0; i < (e + 1) * (e + 2) / 2; i++) {
-      text.append(x.killer(r, e, k, i)).append(' ');
-    }
-    return text.toString().trim();
-  }
-
   private static void killer() {
-    begin(16);
+    begin("promise 16");
     KillingForms x = with("form 0 = x2+3xy+9y2;form 1 = 2x2+3xz+5yz");
     due("killer(0, 1, -1, 0)", x.killer(0, 1, -1, 0), 2);
     dueText("killer 0 by 1", killerText(x, 0, 1, 0), "98 1 0");
@@ -450,7 +369,7 @@ public final class KillingFormsTest {
   }
 
   private static void deep() {
-    begin(17);
+    begin("promise 17");
     KillingForms x = with("form 0 = x5;form 1 = x4y;form 2 = x2y2");
     due("deep of x5", x.deep(0), 1);
     due("deep of x4y", x.deep(1), 2);
@@ -468,16 +387,8 @@ public final class KillingFormsTest {
     due("deep(-1)", x.deep(-1), BAD);
   }
 
-  private static String deepestText(KillingForms x, int r) {
-    StringBuilder text = new StringBuilder();
-    for (int i = 0; i <= x.deep(r); i++) {
-      text.append(x.deepest(r, i)).append(' ');
-    }
-    return text.toString().trim();
-  }
-
   private static void deepest() {
-    begin(18);
+    begin("promise 18");
     KillingForms x = with("form 0 = x5;form 1 = x4y;form 2 = x2y2;form 3 = 7");
     dueText("deepest of x5", deepestText(x, 0), "0 1");
     dueText("deepest of x4y", deepestText(x, 1), "0 0 1");
@@ -500,7 +411,7 @@ public final class KillingFormsTest {
   }
 
   private static void root() {
-    begin(19);
+    begin("promise 19");
     KillingForms x = with("form 0 = x5+y5;form 1 = x4y;form 2 = x2+2xy+4y2;form 3 = 7");
     due("roots of x5+y5", x.root(0, -1), 2);
     due("first", x.root(0, 0), 0);
@@ -531,7 +442,7 @@ public final class KillingFormsTest {
   }
 
   private static void weight() {
-    begin(20);
+    begin("promise 20");
     KillingForms x = with("line 1 = 1 , 10 , 0;line 2 = 1 , 9 , 0;line 3 = 0 , 1 , 0", "zero 0 5;add 0 1 7;add 0 2 100;add 0 3 50");
     due("deep", x.deep(0), 3);
     due("root 0", x.root(0, 0), 9);
@@ -572,7 +483,7 @@ public final class KillingFormsTest {
   }
 
   private static void tangent() {
-    begin(21);
+    begin("promise 21");
     KillingForms x = with("line 0 = 1 , 0 , 0;line 1 = 0 , 1 , 0;line 2 = 1 , 1 , 0;line 3 = 2 , 0 , 0");
     due("tangent(1, 1, 0)", x.tangent(1, 1, 0), 3);
     due("tangent(2, 1, 0)", x.tangent(2, 1, 0), 3);
@@ -597,7 +508,7 @@ public final class KillingFormsTest {
   }
 
   private static void lead() {
-    begin(22);
+    begin("promise 22");
     KillingForms x = with("form 0 = 3x3+9xy2+9xyz+100z3");
     int[] powers = {0, 12, 11, 30};
     int[] numbers = {100, 9, 9, 3};
@@ -621,7 +532,7 @@ public final class KillingFormsTest {
   }
 
   private static void tally() {
-    begin(23);
+    begin("promise 23");
     KillingForms x = with("form 0 = 3x3+9xy2+9xyz+100z3");
     int[] numbers = {100, 9, 3, 0};
     int[] many = {1, 2, 1, 6};
@@ -648,7 +559,7 @@ public final class KillingFormsTest {
   }
 
   private static void store() {
-    begin(24);
+    begin("promise 24");
     KillingForms x = with("form 3 = 5x2+y2;line 5 = 1 , 2 , 3");
     due("store(0, 0, 0, 3)", x.store(0, 0, 0, 3), 1);
     due("store(1, 3, 1, 5)", x.store(1, 3, 1, 5), 1);
@@ -679,7 +590,7 @@ public final class KillingFormsTest {
   }
 
   private static void holds() {
-    begin(25);
+    begin("promise 25");
     KillingForms x = new KillingForms();
     x.store(0, 1, 0, 0);
     x.store(2, 2, 1, 0);
@@ -694,7 +605,7 @@ public final class KillingFormsTest {
   }
 
   private static void fetch() {
-    begin(26);
+    begin("promise 26");
     KillingForms x = with("form 3 = 5x2+y2;line 5 = 1 , 2 , 3");
     x.store(2, 0, 0, 3);
     x.store(2, 3, 1, 5);
@@ -718,7 +629,7 @@ public final class KillingFormsTest {
   }
 
   private static void row() {
-    begin(27);
+    begin("promise 27");
     KillingForms x = new KillingForms();
     due("row(2, 40)", x.row(2, 40), 1);
     due("get(2, 39)", x.get(2, 39), 0);
@@ -744,7 +655,7 @@ public final class KillingFormsTest {
   }
 
   private static void lay() {
-    begin(28);
+    begin("promise 28");
     KillingForms x = new KillingForms();
     due("missing", x.lay(0, 0, 1), MISSING);
     due("missing, outside", x.lay(0, -1, 1), MISSING);
@@ -762,7 +673,7 @@ public final class KillingFormsTest {
   }
 
   private static void get() {
-    begin(29);
+    begin("promise 29");
     KillingForms x = new KillingForms();
     due("missing", x.get(1, 0), MISSING);
     x.row(1, 2);
@@ -776,7 +687,7 @@ public final class KillingFormsTest {
   }
 
   private static void film() {
-    begin(30);
+    begin("promise 30");
     KillingForms x = with("form 1 = 5x2+6xy+7xz+8y2+9yz+10z2");
     due("film(0, 1)", x.film(0, 1), 6);
     for (int i = 0; i < 6; i++) {
@@ -797,7 +708,7 @@ public final class KillingFormsTest {
   }
 
   private static void judge() {
-    begin(31);
+    begin("promise 31");
     KillingForms x = with("form 1 = x+2y;line 0 = 1 , 1 , 1;line 1 = 5 , 0 , 0;line 5 = 0 , 51 , 0");
     due("missing", x.judge(0, 1), MISSING);
     due("missing, no such register", x.judge(0, 4), BAD);
@@ -828,7 +739,7 @@ public final class KillingFormsTest {
   }
 
   private static void say() {
-    begin(32);
+    begin("promise 32");
     KillingForms x = new KillingForms();
     dueText("0", written(x, 0), "0:0");
     x.put(0, 0, 0, 1);
@@ -863,7 +774,7 @@ public final class KillingFormsTest {
   }
 
   private static void back() {
-    begin(33);
+    begin("promise 33");
     KillingForms x = new KillingForms();
     due("none", x.back(), STATE);
     x.zero(0, 2);
@@ -906,7 +817,7 @@ public final class KillingFormsTest {
   }
 
   private static void feed() {
-    begin(34);
+    begin("promise 34");
     KillingForms x = new KillingForms();
     due("feed(32)", x.feed(32), 1);
     due("feed(126)", x.feed(126), 2);
@@ -922,7 +833,7 @@ public final class KillingFormsTest {
   }
 
   private static void wipe() {
-    begin(35);
+    begin("promise 35");
     KillingForms x = new KillingForms();
     due("wipe", x.wipe(), 0);
     x.feed('z');
@@ -948,7 +859,7 @@ public final class KillingFormsTest {
   }
 
   private static void read() {
-    begin(36);
+    begin("promise 36");
     readWell();
     readFaults();
     readRefusals();
@@ -1073,7 +984,7 @@ public final class KillingFormsTest {
   }
 
   private static void image() {
-    begin(37);
+    begin("promise 37");
     KillingForms x = new KillingForms();
     due("image", x.image(), 0);
     x.zero(0, 5);
@@ -1087,7 +998,7 @@ public final class KillingFormsTest {
   }
 
   private static void restore() {
-    begin(38);
+    begin("promise 38");
     KillingForms x = with("form 1 = x2+y2;line 4 = 1 , 2 , 3");
     due("none", x.restore(), STATE);
     due("steps stay", x.count(0), 2);
@@ -1124,7 +1035,7 @@ public final class KillingFormsTest {
   }
 
   private static void count() {
-    begin(39);
+    begin("promise 39");
     KillingForms x = new KillingForms();
     x.zero(0, 1);
     x.line(0, 0, 0, 1);

@@ -196,7 +196,7 @@ public final class ModelTest {
   private void run(Method[] face) throws ReflectiveOperationException {
     Method feed = KillingForms.class.getMethod("feed", int.class);
     Method read = KillingForms.class.getMethod("read");
-    while (calls.size() < CALLS - 90) {
+    while (calls.size() < CALLS - 130) {
       if (below(25) == 0) {
         for (char letter : text().toCharArray()) {
           call(feed, twinOf(feed), new int[] {letter});
